@@ -14,7 +14,6 @@ public final class GrammarAmbiguity {
     private static final int MAX_WORD = 8;
     private static final int MAX_RANKED = 6;
     private static final int MAX_COUNTED = 10;
-    private static final int ALL_WORDS = 1092;
     private static final int MAX_SLOTS = 3;
     private static final int MAX_ELEMENTS = 40;
     private static final int FIRST_TERMINAL = 10;
@@ -33,8 +32,12 @@ public final class GrammarAmbiguity {
         1, 3, 9, 27, 81, 243, 729
     };
 
-    /** Where the words of each length begin when all words are listed, for the most terminals. */
-    private static final int[] WORD_PLACES = {0, 0, 3, 12, 39, 120, 363};
+    /** Where the words of the lengths 0 to 6 begin in a row of all words, with 3 terminals. */
+    private static final int[] WORD_PLACES = {0, 1, 4, 13, 40, 121, 364};
+    private static final int WORD_ROW = 1093;
+
+    /** A row for each symbol, and one for the symbol that a right side does not have. */
+    private static final int WORD_ROWS = MAX_NONTERMINALS + MAX_TERMINALS + 1;
 
     private final Grammar grammar;
     private final Word word;
@@ -54,7 +57,7 @@ public final class GrammarAmbiguity {
         savedWord = new Word();
         lengths = new LengthCounts(grammar);
         spans = new SpanCounts(grammar, word);
-        words = new WordCounts(grammar);
+        words = new WordCounts(grammar, lengths);
         tree = new Tree(grammar);
         slots = new Slots();
         saved = false;
@@ -161,7 +164,8 @@ public final class GrammarAmbiguity {
     }
 
     public long treeCount() {
-        return treesOfWord();
+        countSpans();
+        return spans.count(grammar.start, word.length, 0);
     }
 
     public long treesOfLength(int length) throws IllegalArgumentException {
@@ -174,11 +178,12 @@ public final class GrammarAmbiguity {
         if (trees < 0 || trees > 3) {
             throw new IllegalArgumentException("trees is not from 0 to 3");
         }
+        countWords(length);
         int inLanguage = words.atLeast(1, length);
         int ambiguous = words.atLeast(2, length);
         switch (trees) {
             case 0:
-                return words.pieces(length) - inLanguage;
+                return words.ofLength(length) - inLanguage;
             case 1:
                 return inLanguage - ambiguous;
             case 2:
@@ -190,6 +195,7 @@ public final class GrammarAmbiguity {
 
     public double unambiguousShare(int length) throws IllegalArgumentException {
         checkLength(length, MAX_RANKED);
+        countWords(length);
         int inLanguage = words.atLeast(1, length);
         if (inLanguage < 1) {
             return 1.0;
@@ -201,6 +207,7 @@ public final class GrammarAmbiguity {
     public double averageTrees(int length)
             throws IllegalArgumentException, NoSuchElementException {
         checkLength(length, MAX_RANKED);
+        countWords(length);
         int inLanguage = words.atLeast(1, length);
         if (inLanguage < 1) {
             throw new NoSuchElementException("the language has no word of this length");
@@ -211,6 +218,7 @@ public final class GrammarAmbiguity {
     public int firstAmbiguous(int limit) throws IllegalArgumentException, NoSuchElementException {
         checkLength(limit, MAX_RANKED);
         for (int length = 1; length <= limit; length++) {
+            countWords(length);
             int key = words.find(2, length, 0);
             if (key >= 0) {
                 setWord(length, key);
@@ -224,10 +232,12 @@ public final class GrammarAmbiguity {
         if (word.length < 1 || word.length > MAX_RANKED) {
             throw new IllegalStateException("the current word has no terminal or more than 6");
         }
-        if (treesOfWord() < 1) {
+        countWords(word.length);
+        int key = word.key(grammar.terminals);
+        if (words.count(word.length, key) < 1) {
             throw new NoSuchElementException("the current word is not in the language");
         }
-        return words.atLeastBefore(1, word.length, word.key(grammar.terminals));
+        return words.atLeastBefore(key, 1, word.length);
     }
 
     public void takeWord(int length, int rank)
@@ -236,6 +246,7 @@ public final class GrammarAmbiguity {
         if (rank < 0) {
             throw new IllegalArgumentException("the rank is negative");
         }
+        countWords(length);
         int key = words.find(1, length, rank);
         if (key < 0) {
             throw new NoSuchElementException("the language has no word with this rank");
@@ -246,6 +257,7 @@ public final class GrammarAmbiguity {
     public int drawWord(long seed, int length)
             throws IllegalArgumentException, NoSuchElementException {
         checkLength(length, MAX_RANKED);
+        countWords(length);
         int inLanguage = words.atLeast(1, length);
         if (inLanguage < 1) {
             throw new NoSuchElementException("the language has no word of this length");
@@ -267,15 +279,15 @@ public final class GrammarAmbiguity {
         tree.grow(lengths, grammar.start, 0, 0, length, number);
         word.length = length;
         tree.spell(word);
-        spans.forget();
-        spans.fill(length);
+        countSpans();
         tree.number = tree.findNumber(spans);
         tree.present = true;
         return number;
     }
 
     public int takeTree(long number) throws NoSuchElementException {
-        if (number < 0 || number >= treesOfWord()) {
+        countSpans();
+        if (number < 0 || number >= spans.count(grammar.start, word.length, 0)) {
             throw new NoSuchElementException("the current word has no tree with this number");
         }
         tree.size = 0;
@@ -336,6 +348,7 @@ public final class GrammarAmbiguity {
         checkSlot(slot);
         checkArray(slot);
         checkIndexes(slot, index, MAX_RANKED);
+        countWords(MAX_RANKED);
         for (int length = 1; length <= MAX_RANKED; length++) {
             slots.put(slot, index + length - 1, words.atLeast(1, length));
         }
@@ -386,10 +399,9 @@ public final class GrammarAmbiguity {
         tree.present = false;
     }
 
-    private long treesOfWord() {
+    private void countSpans() {
         spans.forget();
         spans.fill(word.length);
-        return spans.count(grammar.start, word.length, 0);
     }
 
     private long allTrees(int length) {
@@ -397,11 +409,13 @@ public final class GrammarAmbiguity {
         return lengths.count(grammar.start, length, 0);
     }
 
+    private void countWords(int length) {
+        lengths.fill(length);
+        words.fill(length);
+    }
+
     private void setWord(int length, int key) {
-        word.length = length;
-        for (int position = 0; position < length; position++) {
-            word.put(position, words.part(key, length, position, 1));
-        }
+        word.set(length, key, grammar.terminals);
         tree.present = false;
     }
 
@@ -558,8 +572,8 @@ public final class GrammarAmbiguity {
         }
 
         /**
-         * Finds the shortest length of each nonterminal. On a path of a shortest tree no nonterminal
-         * occurs twice, so as many rounds as there are nonterminals are enough.
+         * Finds the shortest length of each nonterminal. No nonterminal occurs twice on a path of a
+         * shortest tree, so as many rounds as there are nonterminals are enough.
          */
         private void measure() {
             for (int nonterminal = 0; nonterminal < MAX_NONTERMINALS; nonterminal++) {
@@ -671,13 +685,24 @@ public final class GrammarAmbiguity {
             }
         }
 
-        /** Where the word stands among all words of its length, in their order. */
+        /** How many words of its length come before the word. */
         private int key(int terminals) {
             int key = 0;
             for (int position = 0; position < length; position++) {
                 key = key * terminals + letter(position);
             }
             return key;
+        }
+
+        /** Makes it the word of a length that has this key. */
+        private void set(int newLength, int key, int terminals) {
+            int base = Math.max(1, terminals);
+            int rest = key;
+            length = newLength;
+            for (int position = newLength - 1; position >= 0; position--) {
+                put(position, rest % base);
+                rest /= base;
+            }
         }
     }
 
@@ -713,13 +738,12 @@ public final class GrammarAmbiguity {
             for (int size = filled + 1; size <= length; size++) {
                 int keys = pieces(size);
                 for (int key = 0; key < keys; key++) {
-                    for (int code = 0; code < MAX_NONTERMINALS; code++) {
-                        put(code, size, key, 0);
-                    }
-                    for (int production = 0; production < grammar.productions; production++) {
-                        int left = grammar.symbol(production, 0);
-                        put(left, size, key,
-                                count(left, size, key) + ofProduction(production, size, key));
+                    for (int code = 0; code < grammar.nonterminals; code++) {
+                        long trees = 0;
+                        for (int production = 0; production < grammar.productions; production++) {
+                            trees += ofProduction(code, production, size, key);
+                        }
+                        put(code, size, key, trees);
                     }
                 }
             }
@@ -730,12 +754,8 @@ public final class GrammarAmbiguity {
             filled = 0;
         }
 
-        private int index(int nonterminal, int length, int key) {
-            return place(length, key) * MAX_NONTERMINALS + nonterminal;
-        }
-
         private void put(int nonterminal, int length, int key, long trees) {
-            int index = index(nonterminal, length, key);
+            int index = place(length, key) * MAX_NONTERMINALS + nonterminal;
             if (index >= 0 && index < rows.length) {
                 rows[index] = trees;
             }
@@ -752,12 +772,15 @@ public final class GrammarAmbiguity {
             if (code >= FIRST_TERMINAL) {
                 return length == 1 && fits(key, code - FIRST_TERMINAL) ? 1 : 0;
             }
-            int index = index(code, length, key);
+            int index = place(length, key) * MAX_NONTERMINALS + code;
             return index >= 0 && index < rows.length ? rows[index] : 0;
         }
 
-        /** The trees of a piece whose root is this production. */
-        final long ofProduction(int production, int length, int key) {
+        /** The trees of a nonterminal for a piece that have this production at the root. */
+        final long ofProduction(int code, int production, int length, int key) {
+            if (grammar.symbol(production, 0) != code) {
+                return 0;
+            }
             long trees = 0;
             for (int first = 1; first <= length; first++) {
                 trees += ofFirst(production, length, key, first);
@@ -767,11 +790,15 @@ public final class GrammarAmbiguity {
 
         /** Those of them whose first part has this length. */
         final long ofFirst(int production, int length, int key, int first) {
+            int rest = length - first;
+            boolean isAlone = grammar.symbol(production, 2) == NO_SYMBOL;
+            if (isAlone != (rest == 0)) {
+                return 0;
+            }
             long heads = count(grammar.symbol(production, 1), first, part(key, length, 0, first));
             if (heads == 0) {
                 return 0;
             }
-            int rest = length - first;
             boolean hasThird = grammar.symbol(production, 3) != NO_SYMBOL;
             int last = hasThird ? rest - 1 : rest;
             long tails = 0;
@@ -807,22 +834,18 @@ public final class GrammarAmbiguity {
             super(grammar, MAX_COUNTED);
         }
 
-        @Override
         int pieces(int length) {
             return 1;
         }
 
-        @Override
         int place(int length, int key) {
             return length - 1;
         }
 
-        @Override
         int part(int key, int length, int begin, int partLength) {
             return 0;
         }
 
-        @Override
         boolean fits(int key, int terminal) {
             return true;
         }
@@ -837,78 +860,146 @@ public final class GrammarAmbiguity {
             this.word = word;
         }
 
-        @Override
         int pieces(int length) {
             return word.length - length + 1;
         }
 
-        @Override
         int place(int length, int key) {
             return (length - 1) * MAX_WORD + key;
         }
 
-        @Override
         int part(int key, int length, int begin, int partLength) {
             return key + begin;
         }
 
-        @Override
         boolean fits(int key, int terminal) {
             return key >= 0 && key < MAX_WORD && word.letters[key] == terminal;
         }
     }
 
-    /** A piece is a word, and its key tells its rank among all words of its length. */
-    private static final class WordCounts extends Counts {
-        private WordCounts(Grammar grammar) {
-            super(grammar, ALL_WORDS);
-        }
+    /**
+     * The number of trees of each symbol for each word of at most 6 terminals. A row per symbol
+     * holds the empty word, then the words of length 1 in their order, and so on. The key of a word
+     * is its rank among all words of its length. There are 729 words of length 6, so they are not
+     * looked at one by one: a production adds to whole stretches of a row.
+     */
+    private static final class WordCounts {
+        private final Grammar grammar;
+        private final LengthCounts lengths;
+        private final long[] rows;
+        private int filled;
 
-        @Override
-        int pieces(int length) {
-            return power(length);
-        }
-
-        @Override
-        int place(int length, int key) {
-            return length < 1 || length > MAX_RANKED ? -1 : WORD_PLACES[length] + key;
-        }
-
-        @Override
-        int part(int key, int length, int begin, int partLength) {
-            int behind = power(length - begin - partLength);
-            int room = power(partLength);
-            if (behind < 1 || room < 1) {
-                return 0;
+        private WordCounts(Grammar grammar, LengthCounts lengths) {
+            this.grammar = grammar;
+            this.lengths = lengths;
+            rows = new long[WORD_ROWS * WORD_ROW];
+            filled = 0;
+            // The rows of the terminals, and of the part that a right side does not have.
+            for (int terminal = 0; terminal < MAX_TERMINALS; terminal++) {
+                rows[(MAX_NONTERMINALS + terminal) * WORD_ROW + WORD_PLACES[1] + terminal] = 1;
             }
-            return key / behind % room;
+            rows[(WORD_ROWS - 1) * WORD_ROW] = 1;
         }
 
-        @Override
-        boolean fits(int key, int terminal) {
-            return key == terminal;
+        private void forget() {
+            filled = 0;
+        }
+
+        /** Makes the counts of all words up to a length, for which the lengths are filled. */
+        private void fill(int length) {
+            for (int size = filled + 1; size <= length; size++) {
+                for (int code = 0; code < grammar.nonterminals; code++) {
+                    clear(code, size);
+                }
+                for (int production = 0; production < grammar.productions; production++) {
+                    for (int first = 1; first <= size; first++) {
+                        for (int second = 0; second <= size - first; second++) {
+                            if (lengths.ofSecond(production, size, 0, first, second) != 0) {
+                                addWords(production, size, first, second);
+                            }
+                        }
+                    }
+                }
+            }
+            filled = Math.max(filled, length);
+        }
+
+        /** Where the words of a length begin for a symbol, or -1. */
+        private int begin(int code, int length) {
+            int row = code;
+            if (code == NO_SYMBOL) {
+                row = WORD_ROWS - 1;
+            } else if (code >= FIRST_TERMINAL) {
+                row = MAX_NONTERMINALS + code - FIRST_TERMINAL;
+            }
+            if (row < 0 || row >= WORD_ROWS || length < 0 || length > MAX_RANKED) {
+                return -1;
+            }
+            return row * WORD_ROW + WORD_PLACES[length];
         }
 
         /** How many words of a length there are. */
-        private int power(int length) {
-            if (length < 0 || length > MAX_RANKED) {
+        private int ofLength(int length) {
+            int index = (grammar.terminals - 1) * (1 + MAX_RANKED) + length;
+            if (length < 0 || length > MAX_RANKED || index < 0 || index >= POWERS.length) {
                 return 0;
             }
-            int index = (grammar.terminals - 1) * (1 + MAX_RANKED) + length;
-            return index >= 0 && index < POWERS.length ? POWERS[index] : 0;
+            return POWERS[index];
+        }
+
+        private void clear(int code, int length) {
+            int begin = begin(code, length);
+            if (begin < 0) {
+                return;
+            }
+            int end = begin + ofLength(length);
+            for (int index = begin; index < end && index < rows.length; index++) {
+                rows[index] = 0;
+            }
+        }
+
+        /** Adds the trees of a production whose first two parts have these lengths. */
+        private void addWords(int production, int length, int first, int second) {
+            int third = length - first - second;
+            int into = begin(grammar.symbol(production, 0), length);
+            int heads = begin(grammar.symbol(production, 1), first);
+            int middles = begin(grammar.symbol(production, 2), second);
+            int tails = begin(grammar.symbol(production, 3), third);
+            if (into < 0 || heads < 0 || middles < 0 || tails < 0) {
+                return;
+            }
+            int headEnd = heads + ofLength(first);
+            int middleEnd = middles + ofLength(second);
+            int width = ofLength(third);
+            for (int head = heads; head < headEnd && head < rows.length; head++) {
+                for (int middle = middles; middle < middleEnd && middle < rows.length; middle++) {
+                    if (rows[head] != 0 && rows[middle] != 0) {
+                        addTimes(into, tails, width, rows[head] * rows[middle]);
+                    }
+                    into += width;
+                }
+            }
+        }
+
+        private void addTimes(int into, int from, int width, long factor) {
+            if (into < 0 || from < 0 || into + width > rows.length || from + width > rows.length) {
+                return;
+            }
+            for (int key = 0; key < width; key++) {
+                rows[into + key] += factor * rows[from + key];
+            }
         }
 
         /** How many words of a length have at least so many trees of the grammar. */
         private int atLeast(int trees, int length) {
-            return atLeastBefore(trees, length, power(length));
+            return atLeastBefore(ofLength(length), trees, length);
         }
 
-        /** How many of them come before the word with the given key. */
-        private int atLeastBefore(int trees, int length, int end) {
-            fill(length);
+        /** How many of them come before the word with the key of the end. */
+        private int atLeastBefore(int end, int trees, int length) {
             int found = 0;
             for (int key = 0; key < end; key++) {
-                if (count(grammar.start, length, key) >= trees) {
+                if (count(length, key) >= trees) {
                     found++;
                 }
             }
@@ -917,11 +1008,10 @@ public final class GrammarAmbiguity {
 
         /** The key of the word before which there are so many of them, or -1. */
         private int find(int trees, int length, int rank) {
-            fill(length);
-            int keys = power(length);
+            int keys = ofLength(length);
             int before = 0;
             for (int key = 0; key < keys; key++) {
-                if (count(grammar.start, length, key) >= trees) {
+                if (count(length, key) >= trees) {
                     if (before == rank) {
                         return key;
                     }
@@ -929,6 +1019,12 @@ public final class GrammarAmbiguity {
                 }
             }
             return -1;
+        }
+
+        /** The trees of the grammar for a word. */
+        private long count(int length, int key) {
+            int index = begin(grammar.start, length) + key;
+            return index >= 0 && index < rows.length ? rows[index] : 0;
         }
     }
 
@@ -986,7 +1082,8 @@ public final class GrammarAmbiguity {
             long thirdTrees = Math.max(1L, counts.count(thirdCode, third, thirdKey));
             grow(counts, grammar.symbol(production, 1), counts.part(key, length, 0, first), begin,
                     first, left / thirdTrees / secondTrees);
-            grow(counts, secondCode, secondKey, begin + first, second, left / thirdTrees % secondTrees);
+            grow(counts, secondCode, secondKey, begin + first,
+                    second, left / thirdTrees % secondTrees);
             grow(counts, thirdCode, thirdKey, begin + first + second, third, left % thirdTrees);
         }
 
@@ -999,7 +1096,7 @@ public final class GrammarAmbiguity {
             long left = rank;
             int production = 0;
             for (; production < grammar.productions - 1; production++) {
-                long trees = ofLeft(counts, code, production, length, key);
+                long trees = counts.ofProduction(code, production, length, key);
                 if (left < trees) {
                     break;
                 }
@@ -1025,11 +1122,6 @@ public final class GrammarAmbiguity {
             firsts[node] = first;
             seconds[node] = second;
             return left;
-        }
-
-        private long ofLeft(Counts counts, int code, int production, int length, int key) {
-            return grammar.symbol(production, 0) == code
-                    ? counts.ofProduction(production, length, key) : 0;
         }
 
         /** Writes the terminals of all nodes into the word. */
@@ -1080,7 +1172,7 @@ public final class GrammarAmbiguity {
             int key = begins[node];
             long trees = 0;
             for (int before = 0; before < production; before++) {
-                trees += ofLeft(counts, code, before, length, key);
+                trees += counts.ofProduction(code, before, length, key);
             }
             for (int before = 1; before < firsts[node]; before++) {
                 trees += counts.ofFirst(production, length, key, before);

@@ -82,7 +82,8 @@ public final class WordTest {
         CHECK.due("19: below the limit", x.firstAmbiguous(6), 3);
 
         // Of the words of 3, aaa has one tree and bab has two.
-        GrammarAmbiguity z = Look.bench(2, 2, 0, 0, 10, 0, 0, 11, -1, -1, 0, 11, 10, 11, 0, 10, 10, 10);
+        GrammarAmbiguity z = Look.bench(2, 2, 0, 0, 10, 0, 0, 11, -1, -1, 0, 11, 10, 11,
+                0, 10, 10, 10);
         CHECK.due("19: not the first word", z.firstAmbiguous(3), 3);
         CHECK.due("19: but this", Look.word(z), "bab");
         CHECK.due("19: with two trees", z.treeCount(), 2L);
