@@ -727,8 +727,8 @@ public final class GrammarAmbiguity {
         /** The place of a piece among the pieces of all lengths. */
         abstract int place(int length, int key);
 
-        /** The key of a part of a piece. */
-        abstract int part(int key, int length, int begin, int partLength);
+        /** The key of a part of a piece, by the number of terminals before it in the piece. */
+        abstract int part(int key, int begin);
 
         /** Whether the piece of length 1 can be this terminal. */
         abstract boolean fits(int key, int terminal);
@@ -795,7 +795,7 @@ public final class GrammarAmbiguity {
             if (isAlone != (rest == 0)) {
                 return 0;
             }
-            long heads = count(grammar.symbol(production, 1), first, part(key, length, 0, first));
+            long heads = count(grammar.symbol(production, 1), first, part(key, 0));
             if (heads == 0) {
                 return 0;
             }
@@ -810,21 +810,18 @@ public final class GrammarAmbiguity {
 
         /** Those of them whose first two parts have these lengths. */
         final long ofSecond(int production, int length, int key, int first, int second) {
-            return count(grammar.symbol(production, 1), first, part(key, length, 0, first))
+            return count(grammar.symbol(production, 1), first, part(key, 0))
                     * tailsOf(production, length, key, first, second);
         }
 
+        /** In how many ways the second and the third part can be. */
         private long tailsOf(int production, int length, int key, int first, int second) {
-            int begin = first;
-            long trees = count(
-                    grammar.symbol(production, 2), second, part(key, length, begin, second));
+            long trees = count(grammar.symbol(production, 2), second, part(key, first));
             if (trees == 0) {
                 return 0;
             }
-            begin += second;
-            int third = length - begin;
-            return trees * count(
-                    grammar.symbol(production, 3), third, part(key, length, begin, third));
+            int begin = first + second;
+            return trees * count(grammar.symbol(production, 3), length - begin, part(key, begin));
         }
     }
 
@@ -842,7 +839,7 @@ public final class GrammarAmbiguity {
             return length - 1;
         }
 
-        int part(int key, int length, int begin, int partLength) {
+        int part(int key, int begin) {
             return 0;
         }
 
@@ -868,7 +865,7 @@ public final class GrammarAmbiguity {
             return (length - 1) * MAX_WORD + key;
         }
 
-        int part(int key, int length, int begin, int partLength) {
+        int part(int key, int begin) {
             return key + begin;
         }
 
@@ -1073,14 +1070,14 @@ public final class GrammarAmbiguity {
             int first = firsts[node];
             int second = seconds[node];
             int third = length - first - second;
-            int secondKey = counts.part(key, length, first, second);
-            int thirdKey = counts.part(key, length, first + second, third);
+            int secondKey = counts.part(key, first);
+            int thirdKey = counts.part(key, first + second);
             int secondCode = grammar.symbol(production, 2);
             int thirdCode = grammar.symbol(production, 3);
             // The leftmost different part decides, so its number is the highest digit.
             long secondTrees = Math.max(1L, counts.count(secondCode, second, secondKey));
             long thirdTrees = Math.max(1L, counts.count(thirdCode, third, thirdKey));
-            grow(counts, grammar.symbol(production, 1), counts.part(key, length, 0, first), begin,
+            grow(counts, grammar.symbol(production, 1), counts.part(key, 0), begin,
                     first, left / thirdTrees / secondTrees);
             grow(counts, secondCode, secondKey, begin + first,
                     second, left / thirdTrees % secondTrees);
