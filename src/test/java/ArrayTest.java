@@ -24,7 +24,7 @@ public final class ArrayTest {
         x.allocate(0, true, 40);
         CHECK.due("28: 40", Look.slot(x, 0), "0 ".repeat(40));
         x.setElement(0, 39, 5);
-        x.setElement(0, 1, 6);
+        x.setElement(0, 0, 6);
         int[][] wrong = {{-1, 1}, {3, 1}, {LEAST, 1}, {MOST, 1}, {0, -1}, {0, 41}, {0, LEAST},
             {0, MOST}, {3, 41}};
         for (int[] pair : wrong) {
@@ -183,8 +183,9 @@ public final class ArrayTest {
         x.setElement(0, 1, 4);
         x.reset(1, 1);
         x.addProduction(0, 10, -1, -1);
-        x.append(0);
-        x.takeTree(0);
+        Look.write(x, "aaaa");
+        x.addProduction(0, 0, 0, -1);
+        x.takeTree(2);
         x.restore();
         CHECK.due("33: grammar", Look.grammar(x), "1 1 1 -1; 1 10 -1 -1; 1 12 -1 -1");
         CHECK.due("33: word", Look.word(x), "aca");

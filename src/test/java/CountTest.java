@@ -143,6 +143,12 @@ public final class CountTest {
         CHECK.due("17: two of five", y.unambiguousShare(4), 2.0 / 5.0);
         CHECK.due("18: eight by four", y.averageTrees(3), 2.0);
         CHECK.due("18: sixteen by five", y.averageTrees(4), 16.0 / 5.0);
+        y.removeProduction(3);
+        CHECK.due("17: the one word has one tree", y.unambiguousShare(1), 1.0);
+        y.reset(1, 1);
+        y.addProduction(0, 0, 0, -1);
+        y.addProduction(0, 10, -1, -1);
+        CHECK.due("17: the one word has two trees", y.unambiguousShare(3), 0.0);
         y.reset(1, 2);
         CHECK.due("17: none", y.unambiguousShare(6), 1.0);
         CHECK.refused("18: none", y, ELEMENT, () -> y.averageTrees(6));

@@ -149,6 +149,11 @@ public final class GrammarTest {
         CHECK.due("5: reached only beside one without trees", x.removeUseless(), 3);
         CHECK.due("5: what stays", Look.grammar(x), "0 10 -1 -1");
 
+        // Each part of a right side is reached, and each as far as it leads.
+        x = Look.bench(6, 1, 5, 10, -1, -1, 4, 5, 10, -1, 3, 10, -1, -1, 2, 4, 10, -1,
+                1, 10, -1, -1, 0, 1, 2, 3);
+        CHECK.due("5: by all three parts", x.removeUseless(), 0);
+
         // The shortest tree of the grammar has 729 terminals, and all its productions count.
         x = Look.bench(6, 1, 0, 1, 1, 1, 1, 2, 2, 2, 2, 3, 3, 3, 3, 4, 4, 4, 4, 5, 5, 5,
                 5, 10, 10, 10);
@@ -228,5 +233,13 @@ public final class GrammarTest {
         CHECK.due("9: beside one without", y.shortestLength(1), 2);
         CHECK.due("9: no production", y.shortestLength(2), 0);
         CHECK.refused("9: 3", y, ARGUMENT, () -> y.shortestLength(3));
+        GrammarAmbiguity z = Look.pairs();
+        CHECK.due("9: before a removal", z.shortestLength(0), 1);
+        z.removeProduction(2);
+        CHECK.due("9: behind a removal", z.shortestLength(0), 1);
+        z.removeProduction(1);
+        CHECK.due("9: behind another", z.shortestLength(0), 0);
+        z.addProduction(0, 11, 10, 11);
+        CHECK.due("9: behind an addition", z.shortestLength(0), 3);
     }
 }

@@ -13,6 +13,7 @@ public final class TreeTest {
         productionsDecideFirst();
         drawTree();
         drawsOfEveryTree();
+        oneTerminal();
         takeTree();
         noTree();
         treeNode();
@@ -127,6 +128,21 @@ public final class TreeTest {
         }
         for (int i = 0; i < trees; i++) {
             CHECK.due("23: drawn " + i, drawn[i], true);
+        }
+    }
+
+    /** With one terminal, all trees of a length are trees of one word, in the same order. */
+    private static void oneTerminal() {
+        GrammarAmbiguity x = Look.bench(2, 1, 0, 0, 0, 0, 1, 10, -1, -1, 0, 1, 0, -1,
+                0, 0, 10, 1, 0, 10, -1, -1, 1, 0, 1, -1, 1, 10, 10, -1);
+        for (int length = 1; length <= 8; length++) {
+            for (int seed = 0; seed < 100; seed++) {
+                long number = x.drawTree(seed, length);
+                String tree = Look.tree(x);
+                CHECK.due("25: of " + length + " by " + seed, x.treeNumber(), number);
+                x.takeTree(number);
+                CHECK.due("24: of " + length + " by " + seed, Look.tree(x), tree);
+            }
         }
     }
 

@@ -105,6 +105,8 @@ public final class WordTest {
         x.takeTree(2);
         CHECK.due("20: again", x.wordRank(), 6);
         CHECK.due("20: the tree stays", x.treeNumber(), 2L);
+        Look.write(x, "c");
+        CHECK.due("20: of one terminal", x.wordRank(), 1);
         Look.write(x, "cccccc");
         CHECK.due("20: the last", x.wordRank(), 63);
         Look.write(x, "ab");
@@ -168,6 +170,8 @@ public final class WordTest {
         GrammarAmbiguity z = nested();
         Look.write(z, "acb");
         z.takeTree(0);
+        CHECK.due("22: one word", z.drawWord(1, 5), 0);
+        CHECK.due("22: the only one", Look.word(z), "aacbb");
         z.removeProduction(2);
         CHECK.refused("22: no words", z, ELEMENT, () -> z.drawWord(1, 3));
         uniform();
