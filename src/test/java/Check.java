@@ -22,11 +22,14 @@ final class Check {
         }
     }
 
-    /** The call throws exactly this exception and leaves all that can be seen of x unchanged. */
+    /**
+     * The call throws exactly this exception, and what little it takes few calls to see stays as it
+     * was: the workbench goes on in its test, and has 512 calls in all. Edge.refused sees more.
+     */
     void refused(String what, GrammarAmbiguity x, Class<?> exception, Call call) {
-        String before = Look.at(x);
+        String before = Look.inShort(x);
         due(what, answer(call), "throws." + exception.getSimpleName());
-        due("the state behind " + what, Look.at(x), before);
+        due("the state behind " + what, Look.inShort(x), before);
     }
 
     /** What a call answers, or the exception that it throws. */

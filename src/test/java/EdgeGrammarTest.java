@@ -36,6 +36,8 @@ public final class EdgeGrammarTest {
         uselessAll();
         uselessNone();
         uselessOfAnyLength();
+        uselessByEachPart();
+        uselessByLongChains();
         uselessKeepsOrder();
         uselessDiscardsEvenIfNone();
         countOfProductions();
@@ -497,6 +499,38 @@ public final class EdgeGrammarTest {
         x.removeProduction(3);
         EDGE.due("5: then in none", x.removeUseless(), 2);
         EDGE.due("5: what is left", grammarOf(x), "0 10 -1 -1");
+    }
+
+    /** A production is in a tree by way of the first, the second or the third part alone. */
+    private static void uselessByEachPart() {
+        int[][] sides = {{1, 10, 10}, {10, 1, 10}, {10, 10, 1}, {1, 10, -1}, {10, 1, -1}};
+        for (int[] side : sides) {
+            GrammarAmbiguity x = Look.bench(3, 1, 1, 10, -1, -1, 2, 10, -1, -1);
+            x.addProduction(0, side[0], side[1], side[2]);
+            EDGE.due("5: one is not reached", x.removeUseless(), 1);
+            EDGE.due("5: one is", x.productionSymbol(0, 0), 1);
+            // The same part, without a tree, takes the whole production with it.
+            GrammarAmbiguity y = Look.bench(3, 1, 0, 10, -1, -1);
+            y.addProduction(0, side[0], side[1], side[2]);
+            EDGE.due("5: a part without a tree", y.removeUseless(), 1);
+            EDGE.due("5: what is left", grammarOf(y), "0 10 -1 -1");
+        }
+    }
+
+    /** All six nonterminals, one by way of the other, in whichever order they were added. */
+    private static void uselessByLongChains() {
+        int[][] orders = {{0, 1, 2, 3, 4, 5}, {5, 4, 3, 2, 1, 0}, {3, 0, 5, 2, 4, 1}};
+        for (int[] order : orders) {
+            GrammarAmbiguity x = Look.bench(6, 1);
+            for (int i : order) {
+                Edge.add(x, CHAIN[4 * i], CHAIN[4 * i + 1], CHAIN[4 * i + 2], CHAIN[4 * i + 3]);
+            }
+            EDGE.due("5: all of the chain", x.removeUseless(), 0);
+            EDGE.due("9: its length", x.shortestLength(0), 729);
+            x.setStart(5);
+            EDGE.due("5: the end of the chain", x.removeUseless(), 5);
+            EDGE.due("5: is left", grammarOf(x), "5 10 10 10");
+        }
     }
 
     /** "The other productions keep their order and are renumbered." */

@@ -19,6 +19,7 @@ public final class EdgeTreeTest {
         numberOfNoTree();
         numberFromZero();
         numberAmongTreesOfTheWord();
+        numberOfDrawnTrees();
         sizeOfNoTree();
         sizeLeastAndGreatest();
         nodeOfNoTree();
@@ -296,10 +297,39 @@ public final class EdgeTreeTest {
         EDGE.due("25: of the first tree of all", y.treeNumber(), 0L);
         // A drawn tree is the one that is taken by its number.
         for (long seed : new long[] {7, -7, Long.MAX_VALUE, Long.MIN_VALUE}) {
-            y.drawTree(seed, 8);
-            String tree = Edge.tree(y);
-            y.takeTree(y.treeNumber());
-            EDGE.due("25: drawn and taken", Edge.tree(y), tree);
+            GrammarAmbiguity z = Edge.full();
+            z.drawTree(seed, 8);
+            String tree = Edge.tree(z);
+            z.takeTree(z.treeNumber());
+            EDGE.due("25: drawn and taken", Edge.tree(z), tree);
+        }
+    }
+
+    /** With one terminal, a tree has the same number among those of its length and its word. */
+    private static void numberOfDrawnTrees() {
+        // One node alone can have another one before it: 0 -> 1 1 and 0 -> a a.
+        GrammarAmbiguity x = Look.bench(2, 1, 0, 1, 1, -1, 0, 10, 10, -1, 1, 10, -1, -1);
+        for (int i = 0; i < 2; i++) {
+            x.drawTree(Edge.seedFor(2 * i), 2);
+            EDGE.due("25: of one node or three", x.treeNumber(), (long) i);
+        }
+        // Parts of all three places, with lengths and trees that differ.
+        int[] threes = {0, 0, 0, 0, 0, 0, 0, -1, 0, 10, -1, -1, 0, 10, 0, 10, 0, 10, 10, -1};
+        for (int length = 1; length <= 4; length++) {
+            long trees = Look.bench(1, 1, threes).treesOfLength(length);
+            for (int i = 0; i < trees; i++) {
+                GrammarAmbiguity y = Look.bench(1, 1, threes);
+                EDGE.due("23: number", y.drawTree(Edge.seedFor(2 * i), length), (long) i);
+                EDGE.due("25: number", y.treeNumber(), (long) i);
+                String tree = Edge.tree(y);
+                y.takeTree(i);
+                EDGE.due("24: the same tree", Edge.tree(y), tree);
+            }
+        }
+        for (int i = 0; i < 100; i++) {
+            GrammarAmbiguity y = Look.bench(1, 1, threes);
+            long number = y.drawTree(i, 8);
+            EDGE.due("25: number of 8", y.treeNumber(), number);
         }
     }
 

@@ -72,6 +72,11 @@ final class Look {
         return elements.toString();
     }
 
+    static String inShort(GrammarAmbiguity x) {
+        return x.productionCount() + " " + x.wordLength() + " " + x.treeCount() + " "
+                + Check.answer(x::treeNumber);
+    }
+
     static String at(GrammarAmbiguity x) {
         StringBuilder all = new StringBuilder(grammar(x));
         for (int i = 0; i < 6; i++) {

@@ -2,14 +2,16 @@ import java.util.Random;
 
 /** Random runs of calls on new workbenches, each answer compared with the model's. */
 public final class ModelTest {
-    private static final int RUNS = 500;
-    private static final int CALLS = 120;
+    private static final int RUNS = 2000;
+    /** The document promises nothing of an object behind these. */
+    private static final int CALLS = 512;
 
     private final Check check = new Check("ModelTest");
     private final Random random = new Random(20261118);
     private GrammarAmbiguity x;
     private Model m;
     private String run;
+    private int calls;
 
     public static void main(String[] args) {
         ModelTest test = new ModelTest();
@@ -23,6 +25,7 @@ public final class ModelTest {
         x = new GrammarAmbiguity();
         m = new Model();
         run = "run " + number + ": ";
+        calls = 0;
         if (random.nextInt(8) != 0) {
             int nonterminals = 1 + random.nextInt(6);
             int terminals = 1 + random.nextInt(3);
@@ -38,12 +41,16 @@ public final class ModelTest {
         for (int i = 0; i < productions; i++) {
             add();
         }
-        for (int i = 0; i < CALLS; i++) {
+        for (int i = 0; i < CALLS && calls < CALLS; i++) {
             step();
         }
     }
 
     private void both(String what, Check.Call real, Check.Call model) {
+        if (calls == CALLS) {
+            return;
+        }
+        calls++;
         check.due(run + what, Check.answer(real), Check.answer(model));
     }
 

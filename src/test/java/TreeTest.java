@@ -105,18 +105,16 @@ public final class TreeTest {
 
     /** Seeds reach all trees of a length, and their order is that of the numbers. */
     private static void drawsOfEveryTree() {
-        GrammarAmbiguity x = Look.bench(2, 2, 0, 0, 1, -1, 0, 10, -1, -1, 1, 0, 0, -1,
-                1, 11, -1, -1, 0, 11, 1, 10);
+        int[] grammar = {0, 0, 1, -1, 0, 10, -1, -1, 1, 0, 0, -1, 1, 11, -1, -1, 0, 11, 1, 10};
         Model m = new Model();
         m.reset(2, 2);
-        int[][] productions = {{0, 0, 1, -1}, {0, 10, -1, -1}, {1, 0, 0, -1}, {1, 11, -1, -1},
-            {0, 11, 1, 10}};
-        for (int[] p : productions) {
-            m.addProduction(p[0], p[1], p[2], p[3]);
+        for (int i = 0; i < grammar.length; i += 4) {
+            m.addProduction(grammar[i], grammar[i + 1], grammar[i + 2], grammar[i + 3]);
         }
-        long trees = x.treesOfLength(5);
+        long trees = m.treesOfLength(5);
         boolean[] drawn = new boolean[(int) trees];
         for (int seed = 0; seed < 600; seed++) {
+            GrammarAmbiguity x = Look.bench(2, 2, grammar);
             int number = (int) x.drawTree(seed, 5);
             CHECK.due("23: seed " + seed, (long) number, m.drawTree(seed, 5));
             CHECK.due("25: seed " + seed, x.treeNumber(), m.treeNumber());
@@ -133,10 +131,11 @@ public final class TreeTest {
 
     /** With one terminal, all trees of a length are trees of one word, in the same order. */
     private static void oneTerminal() {
-        GrammarAmbiguity x = Look.bench(2, 1, 0, 0, 0, 0, 1, 10, -1, -1, 0, 1, 0, -1,
-                0, 0, 10, 1, 0, 10, -1, -1, 1, 0, 1, -1, 1, 10, 10, -1);
+        int[] grammar = {0, 0, 0, 0, 1, 10, -1, -1, 0, 1, 0, -1, 0, 0, 10, 1, 0, 10, -1, -1,
+            1, 0, 1, -1, 1, 10, 10, -1};
         for (int length = 1; length <= 8; length++) {
             for (int seed = 0; seed < 100; seed++) {
+                GrammarAmbiguity x = Look.bench(2, 1, grammar);
                 long number = x.drawTree(seed, length);
                 String tree = Look.tree(x);
                 CHECK.due("25: of " + length + " by " + seed, x.treeNumber(), number);

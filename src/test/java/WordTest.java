@@ -179,10 +179,10 @@ public final class WordTest {
 
     /** The odd halves of neighbouring seeds reach every word. */
     private static void uniform() {
-        GrammarAmbiguity x = Look.bench(1, 3, 0, 10, -1, -1, 0, 11, -1, -1, 0, 12, -1, -1,
-                0, 0, 0, -1);
         int[] drawn = new int[9];
         for (int seed = 0; seed < 450; seed++) {
+            GrammarAmbiguity x = Look.bench(1, 3, 0, 10, -1, -1, 0, 11, -1, -1, 0, 12, -1, -1,
+                    0, 0, 0, -1);
             int rank = x.drawWord(seed, 2);
             CHECK.due("22: rank of seed " + seed, x.wordRank(), rank);
             drawn[rank]++;
