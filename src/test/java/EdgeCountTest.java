@@ -17,6 +17,8 @@ public final class EdgeCountTest {
         noWords();
         wordsWithOneTreeOrTwo();
         allWords();
+        wordsOfTheLastNonterminal();
+        wordsOfThreeParts();
         lengthOfShare();
         shareOfNoWords();
         shareLeastAndGreatest();
@@ -208,6 +210,51 @@ public final class EdgeCountTest {
         for (int length = 1; length <= 6; length++) {
             EDGE.due("16: the only word", y.wordsOfLength(length, 1), 1);
             EDGE.due("16: no other", y.wordsOfLength(length, 0), 0);
+        }
+    }
+
+    /** With 6 nonterminals and 3 terminals, each of the former as the start symbol. */
+    private static void wordsOfTheLastNonterminal() {
+        GrammarAmbiguity x = Look.bench(6, 3);
+        for (int i = 0; i < 6; i++) {
+            Edge.add(x, i, i, i, -1, i, 10, -1, -1, i, 11, -1, -1, i, 12, -1, -1);
+        }
+        EDGE.due("6: full", x.productionCount(), 24);
+        for (int start = 0; start < 6; start++) {
+            x.setStart(start);
+            int all = 1;
+            for (int length = 1; length <= 6; length++) {
+                all *= 3;
+                EDGE.due("16: all of " + start, x.wordsOfLength(length, 3), all);
+                EDGE.due("16: one tree", x.wordsOfLength(length, 1), length < 3 ? all : 0);
+                EDGE.due("18: trees", x.averageTrees(length), (double) CATALAN[length - 1]);
+            }
+        }
+    }
+
+    /** The last part has words of two lengths, and none of them runs over into its neighbour. */
+    private static void wordsOfThreeParts() {
+        // The part that varies is a, or aa, or c, or cc.
+        int[] last = {1, 10, -1, -1, 1, 10, 10, -1, 1, 12, -1, -1, 1, 12, 12, -1};
+        int[][] sides = {{11, 11, 1}, {11, 1, 11}, {1, 11, 11}};
+        String[][] threes = {{"bba", "bbc"}, {"bab", "bcb"}, {"abb", "cbb"}};
+        String[][] fours = {{"bbaa", "bbcc"}, {"baab", "bccb"}, {"aabb", "ccbb"}};
+        for (int i = 0; i < 3; i++) {
+            GrammarAmbiguity x = Look.bench(2, 3, last);
+            x.addProduction(0, sides[i][0], sides[i][1], sides[i][2]);
+            int[] due = {0, 0, 2, 2, 0, 0};
+            for (int length = 1; length <= 6; length++) {
+                EDGE.due("16: of " + length, x.wordsOfLength(length, 3), due[length - 1]);
+                EDGE.due("16: unambiguous", x.wordsOfLength(length, 1), due[length - 1]);
+            }
+            for (int rank = 0; rank < 2; rank++) {
+                x.takeWord(3, rank);
+                EDGE.due("21: of three", Look.word(x), threes[i][rank]);
+                EDGE.due("14: of three", x.treeCount(), 1L);
+                x.takeWord(4, rank);
+                EDGE.due("21: of four", Look.word(x), fours[i][rank]);
+                EDGE.due("14: of four", x.treeCount(), 1L);
+            }
         }
     }
 

@@ -49,6 +49,7 @@ public final class EdgeGrammarTest {
         shortestRange();
         shortestGreaterThanEight();
         shortestOfNoTree();
+        shortestBesideProductionsWithoutTree();
         EDGE.end();
     }
 
@@ -681,5 +682,16 @@ public final class EdgeGrammarTest {
         EDGE.due("9: then seven", x.shortestLength(1), 7);
         x.removeProduction(4);
         EDGE.due("9: then none again", x.shortestLength(1), 0);
+    }
+
+    /** A production without a tree does not take the trees of the others, before it or behind. */
+    private static void shortestBesideProductionsWithoutTree() {
+        GrammarAmbiguity x = Look.bench(3, 1, 0, 10, 10, -1, 0, 2, 10, -1, 0, 10, 10, 2,
+                1, 2, 2, 2, 1, 10, 0, -1, 1, 0, 2, -1);
+        EDGE.due("9: behind it", x.shortestLength(0), 2);
+        EDGE.due("9: on both sides", x.shortestLength(1), 3);
+        EDGE.due("9: none", x.shortestLength(2), 0);
+        EDGE.due("5: five of six", x.removeUseless(), 5);
+        EDGE.due("5: one of six", grammarOf(x), "0 10 10 -1");
     }
 }
